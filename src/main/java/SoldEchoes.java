@@ -1097,19 +1097,15 @@ public final class SoldEchoes {
             int allOdds = 0;
             for (int i = 0; i < plan.seasons.size; i++) {
                 int odds = plan.seasons.at(i, 1);
-                sum += odds * worthIn(field, i);
+                sum += odds * worthBy(field, plan.seasons.at(i, 0), plan.law);
                 allOdds += odds;
             }
             return partOfFraction(sum, allOdds, what);
         }
 
-        private int worthIn(int field, int season) {
-            return worthBy(field, plan.seasons.at(season, 0), plan.law);
-        }
-
         int bestTrade(int field, int what) {
             for (int season = 0; season < plan.seasons.size; season++) {
-                worths[season] = worthIn(field, season);
+                worths[season] = worthBy(field, plan.seasons.at(season, 0), plan.law);
             }
             int best = 0;
             int pair = NONE;
@@ -1240,7 +1236,8 @@ public final class SoldEchoes {
                 }
                 int raised = land.raise(plan.sites, set);
                 for (int field = 0; field < plan.fields.size; field++) {
-                    worths[set * MOST_FIELDS + field] = market.worthBy(field, 0, plan.law);
+                    market.survey(field, 0, plan.law);
+                    worths[set * MOST_FIELDS + field] = plan.fields.at(field, 4) * market.most;
                 }
                 land.lower(plan.sites, raised);
             }
