@@ -476,6 +476,10 @@ public final class PromisesTest {
         SoldEchoes none = Check.valleyOf("valley 2 2;field 0 0 1 1 1;field 0 0 1 1 1;");
         Check.due("no sites: one row", none.rests(0), 1);
         Check.due("no sites: all choose none", none.rests(1), 0);
+        // The first field's owner wants a barn beside the other one's; the other one, if there is one, wants to pay for none.
+        SoldEchoes restless = Check.valleyOf("valley 4 2;loud 23;face 3 1 8;site 1 0 2;site 3 0 2;field 2 0 2 0 1;field 0 0 0 0 3;");
+        Check.due("no rest", restless.rests(0), 0);
+        Check.due("no first rest", restless.rests(1), -1);
         Check.noArgument("rests(2)", () -> none.rests(2));
         Check.noArgument("rests(-1)", () -> none.rests(-1));
     }
