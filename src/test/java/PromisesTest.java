@@ -125,6 +125,12 @@ public final class PromisesTest {
         fault("face 0 0 1;", 1, 0);
         fault("vale 2 2;", 1, 0);
         fault("valleys 2 2;", 1, 0);
+        fault("valleyz 2 2;", 1, 0);
+        fault("avalley 2 2;", 1, 0);
+        fault("{valley 2 2;", 1, 0);
+        fault("valley 2 2;`law 0;", 1, 11);
+        fault("valley /2 2;", 1, 7);
+        fault("valley 2: 2;", 1, 8);
         fault("val", 1, 0);
         fault("valley", 1, 6);
         fault("valley  ", 1, 8);
@@ -409,6 +415,7 @@ public final class PromisesTest {
         Check.noArgument("least fog", () -> e.least(0, -1, 0, 0));
         Check.noArgument("least law", () -> e.least(0, 0, -1, 0));
         Check.noArgument("least what", () -> e.least(0, 0, 0, -1));
+        Check.noArgument("least what 3", () -> e.least(0, 0, 0, 3));
         Check.noArgument("mean fog", () -> e.mean(0, 10, 0, 0));
         Check.noArgument("mean law", () -> e.mean(0, 0, 3, 0));
         Check.noArgument("mean what", () -> e.mean(0, 0, 0, 2));
@@ -559,6 +566,9 @@ public final class PromisesTest {
         Check.due("of alike times", e.loudest(1, 0, 3, 0), 10);
         Check.due("the first", e.loudest(1, 0, 3, 1), 2);
         Check.due("the last note", e.loudest(1, 0, 2048, 1), 13);
+        SoldEchoes once = Check.valleyOf("valley 2 2;face 1 0 9;");
+        Check.due("one echo of the last note", once.loudest(0, 0, 2048, 0), 17);
+        Check.due("at the last time", once.loudest(0, 0, 2048, 1), 13);
         Check.due("nothing heard", e.loudest(1, 0, 0, 0), 0);
         Check.due("nothing heard, time", e.loudest(1, 0, 0, 1), 0);
         Check.noCell("outside", () -> e.loudest(-1, 0, 0, 0));
@@ -671,6 +681,8 @@ public final class PromisesTest {
         SoldEchoes high = Check.valleyOf("valley 2 2;snow 0 0 99;");
         Check.due("99 on the cell itself", high.hush(0, 0), 98);
         Check.due("99 beside it", high.hush(1, 0), 99);
+        SoldEchoes thin = Check.valleyOf("valley 3 2;wood 1 0 1;snow 2 0 10;");
+        Check.due("behind the thinnest wood", thin.hush(0, 0), 12);
         SoldEchoes wood = Check.valleyOf("valley 3 2;wood 1 0 4;snow 2 0 10;");
         Check.due("behind a wood", wood.hush(0, 0), 15);
         wood.years(3);
