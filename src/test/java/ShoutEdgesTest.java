@@ -367,6 +367,8 @@ public final class ShoutEdgesTest {
         Check.due("not on a way", Check.valleyOf("valley 3 2;loud 99;snow 2 1 1;").snows(0, 0), 0);
         Check.due("from X 1, Y 0", Check.valleyOf("valley 3 3;loud 3;snow 2 0 2;").snows(1, 0), 1);
         Check.due("from X 0, Y 1", Check.valleyOf("valley 3 3;loud 3;snow 2 0 2;").snows(0, 1), 0);
+        Check.due("on X 2, Y 0", Check.valleyOf("valley 3 3;loud 3;snow 2 0 3;").snows(2, 0), 1);
+        Check.due("on X 0, Y 2", Check.valleyOf("valley 3 3;loud 3;snow 2 0 3;").snows(0, 2), 0);
         SoldEchoes last = Check.valleyOf("valley 10 10;loud 3;snow 9 9 3;");
         Check.due("from the last cell", last.snows(9, 9), 1);
         Check.due("then from another one", last.snows(8, 8), 0);
