@@ -1379,7 +1379,7 @@ public final class SoldEchoes {
 
     /** What the book tells of faces that may be. */
     private static final class Bookman {
-        private static final int COUNTS = MOST_ECHOES + 1;
+        private static final int MOST_SETS = 1 << MOST_MAYBES;
 
         int sets;
         int firstSet;
@@ -1388,7 +1388,10 @@ public final class SoldEchoes {
         int askX;
         int askY;
         int askLeft;
-        // Of each cell, by how many echoes come, how many sets let so many come.
+        private final boolean[] explains;
+        // From the cell looked at, how many echoes come with a set; NONE, where it is not known yet.
+        private final int[] echoesWith;
+        // From the cell looked at, by how many echoes come, how many sets let so many come.
         private final int[] tally;
         private final Plan plan;
         private final Land land;
@@ -1398,7 +1401,9 @@ public final class SoldEchoes {
             this.plan = plan;
             this.land = land;
             this.shouter = shouter;
-            tally = new int[CELLS * COUNTS];
+            explains = new boolean[MOST_SETS];
+            echoesWith = new int[MOST_SETS];
+            tally = new int[MOST_ECHOES + 1];
         }
 
         void findSets() {
@@ -1409,13 +1414,14 @@ public final class SoldEchoes {
             inAll = all;
             for (int set = 0; set <= all; set++) {
                 int raised = land.raise(plan.maybes, set);
-                if (bookIsSo()) {
+                explains[set] = bookIsSo();
+                land.lower(plan.maybes, raised);
+                if (explains[set]) {
                     sets++;
                     firstSet = firstSet == NONE ? set : firstSet;
                     inAll &= set;
                     inSome |= set;
                 }
-                land.lower(plan.maybes, raised);
             }
             inAll = sets == 0 ? 0 : inAll;
             inNone = sets == 0 ? 0 : all & ~inSome;
@@ -1433,39 +1439,16 @@ public final class SoldEchoes {
         }
 
         void findQuestion() {
-            for (int i = 0; i < CELLS * COUNTS; i++) {
-                tally[i] = 0;
-            }
-            boolean any = false;
-            for (int set = 0; set < 1 << plan.maybes.size; set++) {
-                int raised = land.raise(plan.maybes, set);
-                if (bookIsSo()) {
-                    any = true;
-                    tallyCells();
-                }
-                land.lower(plan.maybes, raised);
-            }
             askX = NONE;
             askY = NONE;
             askLeft = NONE;
-            if (any) {
-                chooseQuestion();
+            findSets();
+            if (sets == 0) {
+                return;
             }
-        }
-
-        private void tallyCells() {
             for (int y = 0; y < plan.height; y++) {
                 for (int x = 0; x < plan.width; x++) {
-                    shouter.shout(x, y, plan.loud, 0);
-                    tally[cellOf(x, y) * COUNTS + shouter.size]++;
-                }
-            }
-        }
-
-        private void chooseQuestion() {
-            for (int y = 0; y < plan.height; y++) {
-                for (int x = 0; x < plan.width; x++) {
-                    int left = leftAtWorst(cellOf(x, y));
+                    int left = leftAtWorst(x, y);
                     if (askLeft == NONE || left < askLeft) {
                         askX = x;
                         askY = y;
@@ -1475,12 +1458,46 @@ public final class SoldEchoes {
             }
         }
 
-        private int leftAtWorst(int cell) {
+        private int leftAtWorst(int x, int y) {
+            for (int i = 0; i <= MOST_ECHOES; i++) {
+                tally[i] = 0;
+            }
+            for (int set = 0; set < MOST_SETS; set++) {
+                echoesWith[set] = NONE;
+            }
+            int reached = maybesReached(x, y);
             int worst = 0;
-            for (int i = 0; i < COUNTS; i++) {
-                worst = Math.max(worst, tally[cell * COUNTS + i]);
+            for (int set = 0; set < 1 << plan.maybes.size; set++) {
+                if (explains[set]) {
+                    int echoes = countWith(x, y, set & reached);
+                    tally[echoes]++;
+                    worst = Math.max(worst, tally[echoes]);
+                }
             }
             return worst;
+        }
+
+        /** The maybe cells that lie in one of the ways of a cell: no other one changes what comes back to it. */
+        private int maybesReached(int x, int y) {
+            int bits = 0;
+            for (int row = 0; row < plan.maybes.size; row++) {
+                int right = Math.abs(plan.maybes.at(row, 0) - x);
+                int down = Math.abs(plan.maybes.at(row, 1) - y);
+                if (right == 0 || down == 0 || right == down) {
+                    bits |= 1 << row;
+                }
+            }
+            return bits;
+        }
+
+        private int countWith(int x, int y, int set) {
+            if (echoesWith[set] == NONE) {
+                int raised = land.raise(plan.maybes, set);
+                shouter.shout(x, y, plan.loud, 0);
+                land.lower(plan.maybes, raised);
+                echoesWith[set] = shouter.size;
+            }
+            return echoesWith[set];
         }
     }
 }

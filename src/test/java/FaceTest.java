@@ -86,6 +86,7 @@ public final class FaceTest {
             Check.so(c + " has twenty fields at most", fields <= 20);
             for (Method m : c.getDeclaredMethods()) {
                 Check.so(m + " takes seven parameters at most", m.getParameterCount() <= 7);
+                Check.so(m + " has no name of the face", !String.join(" ", FACE).matches("(.* )?" + m.getName() + " [0-9].*"));
             }
         }
     }
@@ -104,10 +105,30 @@ public final class FaceTest {
             Check.so("throw " + thrown.group(1), thrown.group(1).matches(
                 "new (IllegalArgumentException|IndexOutOfBoundsException|NoSuchElementException)\\(\"[^\"]*\"\\)"));
         }
+        shortMethods(text.split("\n"));
         for (int i = 0; i < text.length(); i++) {
             if (text.charAt(i) > 127) {
                 Check.so("sign " + i + " of the source is below 128", false);
             }
         }
+    }
+
+    /** A method begins with a line that ends in ") {" or names exceptions, and ends at the brace that stands as far in. */
+    private static void shortMethods(String[] lines) {
+        int methods = 0;
+        for (int i = 0; i < lines.length; i++) {
+            String bare = lines[i].trim();
+            String margin = lines[i].substring(0, lines[i].length() - bare.length());
+            if (!bare.endsWith("{") || !bare.contains(")") || bare.matches("(\\} else )?(if|for|while|switch)\\b.*")) {
+                continue;
+            }
+            int end = i;
+            while (end < lines.length && !lines[end].equals(margin + "}")) {
+                end++;
+            }
+            methods++;
+            Check.so("sixty lines at most: " + bare, end - i < 60);
+        }
+        Check.so("methods looked at: " + methods, methods > 100);
     }
 }

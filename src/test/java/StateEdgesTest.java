@@ -27,6 +27,8 @@ public final class StateEdgesTest {
         askWhereNothingParts();
         askTheFirst();
         askTheWorst();
+        askByEachWay();
+        askPastOtherCells();
         threeImages();
         imagesKeepTheirParts();
         imagesKeepTheLastCell();
@@ -407,6 +409,40 @@ public final class StateEdgesTest {
         asked(e, 0, 0, 2);
         e.book(1, 0, 2, 1);
         asked(e, 0, 0, 1);
+        // From 1 1: 12, and 1 or 6 by maybe cell 2, and 0, 1, 1 or 6 by the other two: three sets let 19 come, one all 24.
+        Check.tell(e, "valley 4 3;loud 99;face 0 0 9;face 1 0 9;maybe 2 0;face 0 1 9;face 2 1 9;maybe 0 2;face 1 2 9;maybe 2 2;");
+        asked(e, 1, 1, 3);
+        asked(e, 1, 1, 3);
+    }
+
+    /** "the cell from which sets that explain it are parted": by faces far off in each of the eight ways. */
+    private static void askByEachWay() {
+        int[][] steps = {{1, 0}, {1, 1}, {0, 1}, {-1, 1}, {-1, 0}, {-1, -1}, {0, -1}, {1, -1}};
+        int[][] first = {{5, 4}, {5, 5}, {4, 5}, {3, 5}, {0, 4}, {0, 0}, {4, 0}, {8, 0}};
+        for (int open = 0; open < 8; open++) {
+            StringBuilder text = new StringBuilder("valley 9 9;maybe 4 4;");
+            for (int way = 0; way < 8; way++) {
+                if (way != open) {
+                    text.append("wood ").append(4 + steps[way][0]).append(' ').append(4 + steps[way][1]).append(" 9;");
+                }
+            }
+            SoldEchoes e = Check.valleyOf(text.toString());
+            // Woods of 29 let nothing through: only the cells by the open way hear the face.
+            e.years(20);
+            asked(e, first[open][0], first[open][1], 1);
+        }
+    }
+
+    private static void askPastOtherCells() {
+        // 2 1 is in no way of 0 0: 1 0 is the first that hears it, and one set has no face there, three have.
+        SoldEchoes e = Check.valleyOf("valley 3 2;loud 99;maybe 2 1;maybe 2 1;");
+        asked(e, 1, 0, 3);
+        // Both are beside 0 1: none, one by either, two.
+        Check.tell(e, "valley 3 3;loud 8;maybe 1 2;maybe 0 2;");
+        asked(e, 0, 1, 2);
+        // A maybe cell that has a face parts nothing, and hides the one behind it; from the face itself that one is heard.
+        Check.tell(e, "valley 5 2;loud 99;face 2 0 9;maybe 2 0;maybe 3 0;wood 4 0 9;wood 3 1 9;wood 4 1 9;wood 2 1 9;");
+        asked(e, 2, 0, 2);
     }
 
     /** "how many there are; -1: there are 3"; "how many are left; -1: there is none" */
